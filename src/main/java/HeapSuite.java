@@ -247,7 +247,7 @@ public final class HeapSuite {
     }
 
     public boolean sound() {
-        if (!bookHolds()) {
+        if (!linksStayInside() || !bookHolds()) {
             return false;
         }
         for (int kind = 0; kind < KINDS; kind++) {
@@ -332,6 +332,38 @@ public final class HeapSuite {
         seat(q, item, NIL);
         home[item] = NIL;
         count[q]--;
+    }
+
+    /** Looked at before all else, so that the other checks may follow every link. */
+    private boolean linksStayInside() {
+        int lastItem = ITEMS - 1;
+        int lastNode = KINDS * ITEMS - 1;
+        return within(home, NIL, QUEUES - 1)
+                && within(slot, 0, lastItem)
+                && within(leanRoot, NIL, lastNode)
+                && within(leanLeft, NIL, lastNode)
+                && within(leanRight, NIL, lastNode)
+                && within(leanUp, NIL, lastNode)
+                && within(pairRoot, NIL, lastItem)
+                && within(pairChild, NIL, lastItem)
+                && within(pairNext, NIL, lastItem)
+                && within(pairBack, NIL, lastItem)
+                && within(tree, NIL, lastItem)
+                && within(treeChild, NIL, lastItem)
+                && within(treeNext, NIL, lastItem)
+                && within(treeUp, NIL, lastItem)
+                && within(nodeItem, 0, lastItem)
+                && within(itemNode, 0, lastItem)
+                && within(winner, NIL, lastItem);
+    }
+
+    private static boolean within(int[] values, int least, int most) {
+        for (int at = 0; at < values.length; at++) {
+            if (values[at] < least || values[at] > most) {
+                return false;
+            }
+        }
+        return true;
     }
 
     private boolean bookHolds() {
@@ -619,7 +651,10 @@ public final class HeapSuite {
         }
         int base = kind * ITEMS;
         int below = child - base;
-        return leanUp[child] == base + item && home[below] == home[item] && comesBefore(item, below);
+        return isItem(below)
+                && leanUp[child] == base + item
+                && home[below] == home[item]
+                && comesBefore(item, below);
     }
 
     // ---- engine 4: a pairing heap; an item is its own node
@@ -721,6 +756,9 @@ public final class HeapSuite {
         int child = pairChild[item];
         int next = pairNext[item];
         if (!pairingLinkHolds(item, child) || !pairingLinkHolds(item, next)) {
+            return false;
+        }
+        if (child != NIL && child == next) {
             return false;
         }
         int back = pairBack[item];
@@ -881,7 +919,7 @@ public final class HeapSuite {
             return false;
         }
         int child = treeChild[node];
-        for (int due = order - 1; due >= 0; due--) {
+        for (int due = order - 1; due >= 0 && child != NIL; due--) {
             int below = nodeItem[child];
             if (treeUp[child] != node || orderOf(child) != due) {
                 return false;
