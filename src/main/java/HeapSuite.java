@@ -30,26 +30,31 @@ public final class HeapSuite {
     private static final int KINDS = 2;
     private static final int LEFTIST_KIND = 0;
     private static final int SKEW_KIND = 1;
+    private static final int HEAPS = KINDS * QUEUES;
+    private static final int SLOTS = HEAPS * ITEMS;
+    private static final int NODES = KINDS * ITEMS;
 
     /** Trees of the orders 0 to 4 hold up to 31 items, which is more than there are. */
     private static final int ORDERS = 5;
+    private static final int TREES = QUEUES * ORDERS;
 
     /** A tournament's nodes: 1 is the top, below n are 2n and 2n + 1, the last ITEMS are leaves. */
     private static final int SEATS = 2 * ITEMS;
+    private static final int ALL_SEATS = QUEUES * SEATS;
 
     private final int[] keys = new int[ITEMS];
     private final int[] home = new int[ITEMS];
     private final int[] count = new int[QUEUES];
 
-    private final int[] slot = new int[KINDS * QUEUES * ITEMS];
-    private final int[] filled = new int[KINDS * QUEUES];
-    private final int[] place = new int[KINDS * ITEMS];
+    private final int[] slot = new int[SLOTS];
+    private final int[] filled = new int[HEAPS];
+    private final int[] place = new int[NODES];
 
-    private final int[] leanRoot = new int[KINDS * QUEUES];
-    private final int[] leanLeft = new int[KINDS * ITEMS];
-    private final int[] leanRight = new int[KINDS * ITEMS];
-    private final int[] leanUp = new int[KINDS * ITEMS];
-    private final int[] leanRank = new int[KINDS * ITEMS];
+    private final int[] leanRoot = new int[HEAPS];
+    private final int[] leanLeft = new int[NODES];
+    private final int[] leanRight = new int[NODES];
+    private final int[] leanUp = new int[NODES];
+    private final int[] leanRank = new int[NODES];
 
     private final int[] pairRoot = new int[QUEUES];
     private final int[] pairChild = new int[ITEMS];
@@ -57,7 +62,7 @@ public final class HeapSuite {
     /** The sibling to the left or, for a first child, the parent. */
     private final int[] pairBack = new int[ITEMS];
 
-    private final int[] tree = new int[QUEUES * ORDERS];
+    private final int[] tree = new int[TREES];
     private final int[] treeChild = new int[ITEMS];
     private final int[] treeNext = new int[ITEMS];
     private final int[] treeUp = new int[ITEMS];
@@ -65,7 +70,7 @@ public final class HeapSuite {
     private final int[] nodeItem = new int[ITEMS];
     private final int[] itemNode = new int[ITEMS];
 
-    private final int[] winner = new int[QUEUES * SEATS];
+    private final int[] winner = new int[ALL_SEATS];
 
     public HeapSuite() {
         for (int item = 0; item < ITEMS; item++) {
@@ -73,16 +78,16 @@ public final class HeapSuite {
             nodeItem[item] = item;
             itemNode[item] = item;
         }
-        for (int at = 0; at < KINDS * QUEUES; at++) {
+        for (int at = 0; at < HEAPS; at++) {
             leanRoot[at] = NIL;
         }
         for (int q = 0; q < QUEUES; q++) {
             pairRoot[q] = NIL;
         }
-        for (int at = 0; at < QUEUES * ORDERS; at++) {
+        for (int at = 0; at < TREES; at++) {
             tree[at] = NIL;
         }
-        for (int at = 0; at < QUEUES * SEATS; at++) {
+        for (int at = 0; at < ALL_SEATS; at++) {
             winner[at] = NIL;
         }
     }
@@ -337,7 +342,7 @@ public final class HeapSuite {
     /** Looked at before all else, so that the other checks may follow every link. */
     private boolean linksStayInside() {
         int lastItem = ITEMS - 1;
-        int lastNode = KINDS * ITEMS - 1;
+        int lastNode = NODES - 1;
         return within(home, NIL, QUEUES - 1)
                 && within(slot, 0, lastItem)
                 && within(leanRoot, NIL, lastNode)
@@ -397,6 +402,10 @@ public final class HeapSuite {
         return kind == 0 ? 2 : 4;
     }
 
+    private static int slotAbove(int kind, int at) {
+        return kind == 0 ? (at - 1) / 2 : (at - 1) / 4;
+    }
+
     private int firstOfArrayHeap(int kind, int q) {
         int heap = kind * QUEUES + q;
         return filled[heap] == 0 ? NIL : slot[heap * ITEMS];
@@ -441,10 +450,9 @@ public final class HeapSuite {
 
     private void siftUp(int kind, int q, int item) {
         int base = (kind * QUEUES + q) * ITEMS;
-        int width = widthOf(kind);
         int at = place[kind * ITEMS + item];
         for (int step = 0; step < ITEMS && at > 0; step++) {
-            int above = (at - 1) / width;
+            int above = slotAbove(kind, at);
             int other = slot[base + above];
             if (comesBefore(other, item)) {
                 break;
@@ -506,7 +514,7 @@ public final class HeapSuite {
         if (at == 0) {
             return true;
         }
-        int above = (at - 1) / widthOf(kind);
+        int above = slotAbove(kind, at);
         return comesBefore(slot[base + above], item);
     }
 
@@ -668,11 +676,11 @@ public final class HeapSuite {
 
     private void dropFromPairing(int q, int item) {
         int rest = pairChildrenOf(item);
-        if (pairRoot[q] == item) {
+        int back = pairBack[item];
+        if (back == NIL) {
             pairRoot[q] = rest;
             return;
         }
-        int back = pairBack[item];
         int next = pairNext[item];
         if (pairChild[back] == item) {
             pairChild[back] = next;
